@@ -416,6 +416,8 @@ public final class RunEdgeTest {
         dueEver("m1;hy;hy;hy;hy;hn;hn;hn", 0, 2, 1, 7);
         // all sit behind a shut hall, but the turn is another one
         dueEver("m1;hy;hy;hn", 1, 2, 0, 7);
+        // of eight: all by one turn, nobody by another, and so on
+        dueEver("m1;hn;hn;hn;hn;hy;hy;hy;hn", 2, 2, 9, 8);
         CHECK.at("by LAWS 0 and 1 who SITS alone");
         dueEver("m1;hy;hy;hn", 1, 0, 1, 1);
         dueEver("m1;hy;hn;hy", 1, 1, 1, 1);

@@ -11,6 +11,7 @@ public final class SearchEdgeTest {
         lastMatterIsWon();
         fewestInAllVotes();
         onlyThoseWhoSit();
+        turnOfEight();
         orderCounts();
         firstOrder();
         orderPlaces();
@@ -25,6 +26,8 @@ public final class SearchEdgeTest {
         fitsWithoutTown();
         safeRules();
         safeInAnyOrder();
+        safeOfEachOnce();
+        leaveTheRules();
         CHECK.finish();
     }
 
@@ -140,6 +143,22 @@ public final class SearchEdgeTest {
         due("nor needs to", x.sway(2, 0), 0);
         due("the oldest can", x.sway(1, 1), 1);
         due("nothing was changed", x.ofOne(0, 1), 0);
+    }
+
+    private static void turnOfEight() {
+        CHECK.at("eight PEOPLE in turn: all SIT by one turn, nobody by another");
+        String text = "m4;hnnnn;hnnnn;hnyny;hynyy;hynny;hnyny;hynyy;hnyny";
+        WonBySeats x = town(text, 2, 2);
+        Model model = new Model(text);
+        model.measure = 2;
+        model.law = 2;
+        for (int want = 0; want <= 1; want++) {
+            for (int set : new int[] {1, 3, 7, 129}) {
+                due("sway(" + set + ", " + want + ")", x.sway(set, want), model.sway(set, want));
+            }
+        }
+        due("no, by one saying", x.sway(3, 0), 1);
+        due("yes, by two", x.sway(3, 1), 2);
     }
 
     // ---- 4 orders, key
@@ -374,5 +393,39 @@ public final class SearchEdgeTest {
         due("one of them", x.safe(), 4095);
         due("the agenda is as it was", x.vote(0, 0), 0);
         due("the rules are as they were", 10 * x.many(2) + x.many(3), 10);
+    }
+
+    private static void safeOfEachOnce() {
+        CHECK.at("AN AGENDA: each but once");
+        WonBySeats x = Calls.ofTown("m2;hnn;hny;hnn");
+        due("the second one twice would be even", x.safe(), 3647);
+        Calls.town(x, "m3;hnnn;hnyn;hnnn");
+        due("nor one of three", x.safe(), 3647);
+    }
+
+    /** fits() and safe() try all rules; what is asked right behind them goes by the town's own. */
+    private static void leaveTheRules() {
+        CHECK.at("right behind fits() and safe()");
+        for (int safe = 0; safe <= 1; safe++) {
+            due("often", behind(safe, "m1;hn;hy;hy").often(0), 0);
+            due("ever", behind(safe, "m1;hn;hy;hy").ever(1), 1);
+            due("sway", behind(safe, "m2;hyn;hyy;hny").sway(2, 0), 0);
+            due("orders", behind(safe, "m3;hyny;hyyn;hnyn").orders(1, -1), 2);
+            due("lot", behind(safe, "m2;hyy;hyn;hnn").lot(1), 3);
+            due("key", behind(safe, "m2;hyn;hyy;hny").key(0), 0);
+            due("vote", behind(safe, "m1;hy;hy;hn").vote(0, 4), 1);
+            due("sits", behind(safe, "m1;hy;hy;hn").sits(), 1);
+            due("decided", behind(safe, "m2;hyy;hyn;hnn").decided(1), 1);
+        }
+    }
+
+    private static WonBySeats behind(int safe, String text) {
+        WonBySeats x = Calls.ofTown(text);
+        if (safe == 1) {
+            x.safe();
+        } else {
+            Calls.fits(x, 0, 0, 0, 0, 0, 0);
+        }
+        return x;
     }
 }
