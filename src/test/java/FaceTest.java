@@ -93,7 +93,8 @@ public final class FaceTest {
             (com.sun.management.ThreadMXBean) java.lang.management.ManagementFactory.getThreadMXBean();
         WonBySeats x = Calls.ofTown("m6;hyyyyyy;fnyyyyn;hyyyyyy;cynynyn;hyyyyyy;fyyyyyy;hyyyyyy;hnyyyyy");
         long spent = 0;
-        for (int round = 0; round < 20; round++) {
+        // the first rounds may make what the machine keeps; more rounds would be more than 512 calls
+        for (int round = 0; round < 14; round++) {
             long before = counter.getCurrentThreadAllocatedBytes();
             for (int law = 0; law < 3; law++) {
                 x.law(law);

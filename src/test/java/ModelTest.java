@@ -51,74 +51,29 @@ public final class ModelTest {
         model.law = random.nextInt(3);
         Calls.rules(x, model.measure, model.law);
         CHECK.at(text + " agenda " + model.agenda + " measure " + model.measure + " law " + model.law);
-        askRun(x, model);
-        askEver(x, model);
-        askFactions(x, model, random);
-        askOrdersAndKey(x, model);
-        askLotsAndRules(x, model, random);
+        Beside beside = new Beside(CHECK, x, model);
+        beside.run();
+        beside.ever();
+        askFactions(beside, model, random);
+        beside.orders();
+        beside.key();
+        beside.lot();
+        beside.safe();
+        int[] seats = model.seats();
+        beside.fits(seats);
+        seats[random.nextInt(seats.length)] = random.nextInt(model.people + 1);
+        beside.fits(seats);
+        beside.rulesAreAsTheyWere();
     }
 
-    private static void askRun(WonBySeats x, Model model) {
-        List<Model.Vote> votes = model.run();
-        for (int q = 0; q < votes.size(); q++) {
-            Model.Vote v = votes.get(q);
-            CHECK.due("vote(" + q + ", 0)", x.vote(q, 0), v.matter);
-            CHECK.due("vote(" + q + ", 1)", x.vote(q, 1), v.sits);
-            CHECK.due("vote(" + q + ", 2)", x.vote(q, 2), v.yes);
-            CHECK.due("vote(" + q + ", 3)", x.vote(q, 3), v.decided);
-            CHECK.due("vote(" + q + ", 4)", x.vote(q, 4), v.seats);
-        }
-        for (int m = 0; m < model.matters; m++) {
-            CHECK.due("decided(" + m + ")", x.decided(m), model.decided(m));
-        }
-        CHECK.due("sits()", x.sits(), model.sits());
-    }
-
-    private static void askEver(WonBySeats x, Model model) {
-        int[] ever = model.ever();
-        CHECK.due("ever(0)", x.ever(0), ever[0]);
-        CHECK.due("ever(1)", x.ever(1), ever[1]);
-        for (int m = 0; m < model.matters; m++) {
-            CHECK.due("often(" + m + ")", x.often(m), ever[2 + m]);
-        }
-    }
-
-    private static void askFactions(WonBySeats x, Model model, Random random) {
+    private static void askFactions(Beside beside, Model model, Random random) {
         for (int set = 0; set < 1 << model.people; set++) {
             int members = Integer.bitCount(set);
             // the model tries all sayings: three of eight with six matters are asked now and then only
             boolean dear = members == 3 && model.agenda.size() > 3;
             if (members >= 1 && members <= 3 && random.nextInt(dear ? 100 : 8) == 0) {
-                CHECK.due("sway(" + set + ", 0)", x.sway(set, 0), model.sway(set, 0));
-                CHECK.due("sway(" + set + ", 1)", x.sway(set, 1), model.sway(set, 1));
+                beside.sway(set);
             }
         }
-    }
-
-    private static void askOrdersAndKey(WonBySeats x, Model model) {
-        for (int m : model.agenda) {
-            List<List<Integer>> orders = model.orders(m);
-            CHECK.due("orders(" + m + ", -1)", x.orders(m, -1), orders.size());
-            for (int q = 0; q < model.agenda.size(); q++) {
-                int want = orders.isEmpty() ? Model.NONE : orders.get(0).get(q);
-                CHECK.due("orders(" + m + ", " + q + ")", x.orders(m, q), want);
-            }
-        }
-        int[] key = model.key();
-        CHECK.due("key(0)", x.key(0), key[0]);
-        CHECK.due("key(1)", x.key(1), key[1]);
-    }
-
-    private static void askLotsAndRules(WonBySeats x, Model model, Random random) {
-        long[] lot = model.lot();
-        CHECK.due("lot(0)", x.lot(0), lot[0]);
-        CHECK.due("lot(1)", x.lot(1), lot[1]);
-        CHECK.due("safe()", x.safe(), model.safe());
-        int[] seats = model.seats();
-        CHECK.due("fits of its own seats", Calls.fits(x, seats), model.fits(seats));
-        seats[random.nextInt(seats.length)] = random.nextInt(model.people + 1);
-        CHECK.due("fits of other seats", Calls.fits(x, seats), model.fits(seats));
-        CHECK.due("measure is as it was", x.many(2), model.measure);
-        CHECK.due("law is as it was", x.many(3), model.law);
     }
 }

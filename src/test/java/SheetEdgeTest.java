@@ -55,8 +55,9 @@ public final class SheetEdgeTest {
 
     private static void objectsApart() {
         CHECK.at("a new object has nothing of another one");
+        // asked of an object like it: to see all takes so many calls that an object is seen but once
+        long[] before = Scene.seen(Scene.TOWN.make());
         WonBySeats x = Scene.TOWN.make();
-        long[] before = Scene.seen(x);
         WonBySeats y = new WonBySeats();
         due("no people", y.many(0), 0);
         due("no sheet", y.lose(0), 0);
