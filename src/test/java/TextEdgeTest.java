@@ -18,6 +18,7 @@ public final class TextEdgeTest {
         ninthOne();
         everyCodeAtEveryPlace();
         placeIsOfTheText();
+        whatStandsBehind();
         cutOrNot();
         wrongTextChangesNothing();
         takenMakesAllAnew();
@@ -169,6 +170,27 @@ public final class TextEdgeTest {
         CHECK.due("no cells behind the end", x.town(1, 1, row.length() + 1, 0), Calls.INDEX);
         x.sheet(0, 0, 0);
         CHECK.due("no cells of none", x.town(0, 0, 0, 0), -100);
+    }
+
+    /** What stands behind a text could be taken for one more wish of its last one. */
+    private static void whatStandsBehind() {
+        CHECK.at("n cells of a SHEET, and none behind them");
+        for (int matters = 1; matters <= 6; matters++) {
+            for (char behind : new char[] {'y', 'n', ';', 'x'}) {
+                String text = "m" + matters + ";h" + "n".repeat(matters) + ";c" + "n".repeat(matters);
+                WonBySeats x = new WonBySeats();
+                x.sheet(0, 0, text.length() + 1);
+                for (int i = 0; i < text.length(); i++) {
+                    x.put(0, i, text.charAt(i));
+                }
+                x.put(0, text.length(), behind);
+                CHECK.due(text + " ahead of " + behind, x.town(0, 0, 0, text.length()), 2);
+                CHECK.due("its matters", x.many(1), matters);
+                CHECK.due("its wishes of yes", x.tell(1), 100);
+                CHECK.due("with it", x.town(0, 0, 0, text.length() + 1),
+                    -100 - text.length() - (behind == ';' ? 1 : 0));
+            }
+        }
     }
 
     private static void cutOrNot() {
